@@ -1,0 +1,79 @@
+/** Promises 38 and 39: rates by costs, which ring to ask for. */
+public final class PricedTest {
+    /** Ring 0 (links 0, 1, 2) costs by rate / 2, ring 1 (links 3, 4, 5) by the rate's third. */
+    private static final String TWO = "net nodes 6 rate 0;link 0 1 long 1 work 0;link 1 2 long 1 work 0;link 2 0 long 1 work 0;"
+            + "link 3 4 long 2 work 0;link 4 5 long 2 work 0;link 5 3 long 2 work 0;"
+            + "costs:if long=1 then if rate<4 then 1 else 2 end else if rate<2 then 5 else if rate<6 then 6 else 7 end end end;";
+
+    public static void main(String[] args) {
+        SpareRings x = Check.told(TWO);
+        Check.due("rates(4)", x.rates(4), -2);
+        Check.due("rates(-1)", x.rates(-1), -2);
+        Check.due("rates(0)", x.rates(0), -6);
+        Check.due("ask(4)", x.ask(4), -2);
+        Check.due("ask(0)", x.ask(0), -6);
+        Check.fill(x, 0, 2);
+        Check.due("rates of no numbers", x.rates(0), -4);
+        Check.due("ask of no numbers", x.ask(0), -4);
+        Check.fill(x, 0, 2, 3, 3, 3, 3, 3, 3, 3, 3, 3);
+        Check.due("rates of nine numbers", x.rates(0), -4);
+        Check.fill(x, 0, 2, -3, 3, 3, 3, 3, 3, 3, 3, 3);
+        Check.due("-4 is ahead of -3", x.rates(0), -4);
+        long[] wrong = {-1, 2000, 2003, 1L << 40, Long.MIN_VALUE};
+        for (long v : wrong) {
+            Check.fill(x, 0, 3, 3, v);
+            Check.due("rates of " + v, x.rates(0), -3);
+            Check.due("ask of " + v, x.ask(0), -3);
+        }
+        rates(x, 0xF, 3);
+        rates(x, 0x3F0, 6);
+        rates(x, 0x3, 1015);
+        rates(x, 0x3C, 1018);
+        rates(x, 0xC, 3, 1018);
+        rates(x, 0x30, 1018, 6, 6, 6, 6, 6, 6, 6);
+        rates(x, 0, 3, 1021);
+        rates(x, 0, 999);
+        rates(x, 0, 0);
+        asks(x);
+        byTheRateNow();
+        Check.end();
+    }
+
+    private static void rates(SpareRings x, int bits, long... told) {
+        Check.fill(x, 0, 2, told);
+        Check.due("rates()", x.rates(0), bits);
+        x.rate(7);
+        Check.due("rates() by another rate now", x.rates(0), bits);
+        x.rate(0);
+    }
+
+    private static void asks(SpareRings x) {
+        // Of rates 0 to 3: ring 0 costs the same by all four, ring 1 by two.
+        Check.fill(x, 1, 1, 3);
+        Check.due("ask() of 0 to 3", x.ask(1), 1);
+        // Of rates 4 to 9: the same by six; by two and four.
+        Check.fill(x, 1, 1, 6);
+        Check.due("ask() of 4 to 9", x.ask(1), 1);
+        // Of rates 2 to 5: ring 0 by two and two; ring 1 by all.
+        Check.fill(x, 1, 1, 1018);
+        Check.due("ask() of 2 to 5", x.ask(1), 0);
+        // Of rates 0 and 1 both cost the same: the first one.
+        Check.fill(x, 1, 1, 1015);
+        Check.due("ask() of 0, 1", x.ask(1), 0);
+        Check.fill(x, 1, 1, 999);
+        Check.due("ask() of none", x.ask(1), -1);
+    }
+
+    private static void byTheRateNow() {
+        SpareRings x = Check.told(TWO + "may:rate<5 or long=6;");
+        Check.fill(x, 2, 1, 18);
+        Check.due("ring 0 at rate 0", x.rates(2), 0);
+        x.rate(5);
+        Check.due("ring 0 at rate 5 is the other one", x.rates(2), 0x3C);
+        Check.fill(x, 2, 1, 1018);
+        Check.due("there is no ring 1 at rate 5", x.rates(2), -3);
+        SpareRings none = Check.told(TWO + "may:1=2;");
+        Check.fill(none, 0, 0, 0);
+        Check.due("ask() without rings", none.ask(0), -3);
+    }
+}
