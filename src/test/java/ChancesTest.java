@@ -11,7 +11,8 @@ public final class ChancesTest {
         fraction(x, 1, 9, 10, 1, 10);
         // Two: none, 49 times; one link, 15 times each; each two of them, twice: 3, 1, 2 units.
         fraction(x, 2, 79, 100, 27, 100);
-        // Three: none 343; one 169 = 8^3 - 7^3 each; two 24 + 6 + 6 ... each pair 42 + 6; all three 6 times: 3 units.
+        // Three: none 7^3 times; one link, 8^3 - 7^3 times each; each two of them, pair times: 3, 1, 2 units;
+        // all of them, six times: 3 units.
         int pair = 9 * 9 * 9 - 2 * 8 * 8 * 8 + 7 * 7 * 7;
         fraction(x, 3, (343 + 2 * 169), 1000, 169 + pair * 6 + 6 * 3, 1000);
         x.fail(1);
