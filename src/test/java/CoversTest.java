@@ -18,6 +18,9 @@ public final class CoversTest {
         ways();
         spares();
         lists();
+        listsInOrder();
+        sameRingTwice();
+        whateverWasAsked();
         byAllCovers();
         Check.end();
     }
@@ -77,6 +80,47 @@ public final class CoversTest {
         Check.due("among(0, 0)", apart.among(0, apart.ringOf(31)), 0);
         Check.due("among of the one", apart.among(0, apart.ringOf(35)), 1);
         Check.due("among of the other", apart.among(0, apart.ringOf(88)), 1);
+    }
+
+    /** Twice the first ring (3 each) is cheaper than the ring around once (8), though fewest isn't. */
+    private static void sameRingTwice() {
+        SpareRings x = Check.told("net nodes 4 rate 0;link 0 1 long 1 work 2;link 0 2 long 1 work 0;link 0 3 long 3 work 0;"
+                + "link 1 2 long 1 work 0;link 1 3 long 3 work 0;link 2 3 long 3 work 0;");
+        Check.due("ring(0, 3)", x.ring(0, 3), 3);
+        Check.due("yet(0, 0)", x.yet(0, 0), 6);
+        Check.due("among(0, 0)", x.among(0, 0), 2);
+        Check.due("yet(1, 1)", x.yet(1, 1), 1);
+        Check.due("among(1, 2)", x.among(1, x.ringOf(30)), 1);
+    }
+
+    /** What was asked ahead, by another aim, rate or with other copies, changes no answer. */
+    private static void whateverWasAsked() {
+        String text = "net nodes 5 rate 0;link 0 1 long 3 work 2;link 0 2 long 7 work 1;link 0 3 long 2 work 2;link 0 4 long 5 work 2;"
+                + "link 1 2 long 1 work 2;link 1 3 long 8 work 1;link 1 4 long 4 work 2;link 2 3 long 9 work 2;link 2 4 long 6 work 1;"
+                + "link 3 4 long 2 work 2;costs:if rate<5 then long*(rate+1) else 30-long*rate end;";
+        SpareRings x = Check.told(text);
+        Random random = new Random(8);
+        for (int i = 0; i < 150; i++) {
+            int rate = random.nextInt(10);
+            x.rate(rate);
+            if (random.nextInt(3) == 0) {
+                x.undo(Math.min(x.count(6), 1 + random.nextInt(3)));
+            }
+            if (random.nextBoolean()) {
+                x.lay(random.nextInt(37));
+            }
+            SpareRings y = Check.told(text);
+            y.rate(x.count(2));
+            for (int r = 0; r < 37; r++) {
+                for (int n = x.ring(r, 5); n > 0; n--) {
+                    y.lay(r);
+                }
+            }
+            for (int aim = 0; aim < 2; aim++) {
+                Check.due("yet(" + aim + ", 0)", x.yet(aim, 0), y.yet(aim, 0));
+                Check.due("yet(" + aim + ", 1)", x.yet(aim, 1), y.yet(aim, 1));
+            }
+        }
     }
 
     private static void beyondNine() {
@@ -158,6 +202,44 @@ public final class CoversTest {
         SpareRings none = Check.told(RingsTest.LOOSE);
         Check.due("numbers(0, 0, 1)", none.numbers(0, 0, 1), 0);
         Check.due("lists that can't be", none.lists(0, 0), -5);
+    }
+
+    /**
+     * Rings 10 to 19 are deeds, too, of the rates 0 to 9: nets of which just such are to be laid show
+     * by these which numbers came, in which order.
+     */
+    private static void listsInOrder() {
+        Random random = new Random(2);
+        int seen = 0;
+        for (int i = 0; i < 3000 && seen < 40; i++) {
+            StringBuilder text = new StringBuilder("net nodes 5 rate 0;");
+            for (int a = 0; a < 5; a++) {
+                for (int b = a + 1; b < 5; b++) {
+                    text.append("link ").append(a).append(' ').append(b).append(" long ").append(1 + random.nextInt(9))
+                            .append(" work ").append(random.nextInt(3)).append(';');
+                }
+            }
+            SpareRings x = Check.told(text.toString());
+            List<Integer> rings = new ArrayList<>();
+            for (int r = 0; r < x.rings(); r++) {
+                for (int n = x.among(0, r); n > 0; n--) {
+                    rings.add(r);
+                }
+            }
+            if (rings.size() > 1 && rings.get(0) >= 10 && rings.get(1) <= 19) {
+                seen++;
+                int done = 0;
+                while (done < rings.size() && rings.get(done) <= 19) {
+                    done++;
+                }
+                Check.due("numbers(0, 2, 40)", x.numbers(0, 2, 40), 0);
+                Check.due("lists(0, 0)", x.lists(0, 0), rings.size());
+                Check.due("numbers that are deeds", x.judge(0, 0), done);
+                Check.due("perform(0)", x.perform(0), done);
+                Check.due("the rate", x.count(2), rings.get(done - 1) - 10);
+            }
+        }
+        Check.holds("some such nets", seen >= 10);
     }
 
     // ---- what is to be laid by the document's very words: all covers that are like are looked at

@@ -70,6 +70,34 @@ public final class DeedsTest {
         Check.due("links that have failed", x.count(4), 8);
         copyByCopy();
         onlyTheLastCopy();
+        bothSidesTaken();
+    }
+
+    /** A ring of six: on its sides run both units of a chord (6), so that none is left for another one (7). */
+    private static void bothSidesTaken() {
+        String six = "net nodes 6 rate 0;link 2 3 long 1 work 0;link 3 4 long 1 work 0;link 4 5 long 1 work 0;"
+                + "link 5 0 long 1 work 0;link 0 1 long 1 work 0;link 1 2 long 1 work 0;link 0 2 long 1 work 2;"
+                + "link 3 5 long 1 work 1;may:links=6;";
+        SpareRings x = Check.told(six);
+        Check.due("rings()", x.rings(), 1);
+        x.lay(0);
+        Check.due("fail(6)", x.fail(6), 0);
+        runs(x, 6, 0, 0, 0, 15);
+        runs(x, 6, 1, 0, 0, 48);
+        Check.due("fail(7)", x.fail(7), 1);
+        Check.due("mend(6)", x.mend(6), 0);
+        runs(x, 7, 0, 0, 0, 6);
+        Check.due("fail(6): one side is left", x.fail(6), 1);
+        runs(x, 6, 0, 0, 0, 48);
+        SpareRings y = Check.told(six);
+        y.fail(7);
+        Check.due("fail(6) without copies", y.fail(6), 3);
+        y.lay(0);
+        Check.due("all try at once", y.lost(), 1);
+        runs(y, 6, 0, 0, 0, 15);
+        runs(y, 6, 1, 0, 0, 48);
+        y.lay(0);
+        runs(y, 7, 0, 0, 1, 6);
     }
 
     private static void copyByCopy() {

@@ -62,6 +62,14 @@ public final class PricedTest {
         Check.due("ask() of 0, 1", x.ask(1), 0);
         Check.fill(x, 1, 1, 999);
         Check.due("ask() of none", x.ask(1), -1);
+        // Of rates 0, 1, 2 (ring 2): ring 0 by two, ring 1 by one each.
+        SpareRings y = Check.told("net nodes 8 rate 0;link 0 1 long 1 work 0;link 1 2 long 1 work 0;link 2 0 long 1 work 0;"
+                + "link 3 4 long 2 work 0;link 4 5 long 2 work 0;link 5 3 long 2 work 0;link 5 6 long 3 work 0;"
+                + "link 6 7 long 3 work 0;link 7 5 long 3 work 0;costs:if long=1 then if rate<2 then 1 else 2 end "
+                + "else if long=2 then rate+1 else if rate<3 then 1 else 2 end end end;");
+        Check.fill(y, 1, 1, 2003);
+        Check.due("rates() of ring 2", y.rates(1), 7);
+        Check.due("ask() of 0, 1, 2", y.ask(1), 1);
     }
 
     private static void byTheRateNow() {

@@ -74,10 +74,15 @@ public final class RandomRunsTest {
     }
 
     private String goodText() {
-        int nodes = 1 + below(8);
-        if (below(3) > 0) {
-            nodes = 4 + below(3);
+        String text = drawnText();
+        while (text.length() > 860) {
+            text = drawnText();
         }
+        return text;
+    }
+
+    private String drawnText() {
+        int nodes = below(6) == 0 ? 1 + below(8) : 4 + below(3);
         List<int[]> pairs = new ArrayList<>();
         for (int a = 0; a < nodes; a++) {
             for (int b = a + 1; b < nodes; b++) {
@@ -85,19 +90,52 @@ public final class RandomRunsTest {
             }
         }
         Collections.shuffle(pairs, random);
-        int links = Math.min(pairs.size(), below(3) == 0 ? below(11) : 5 + below(6));
+        if (below(3) == 0) {
+            aroundFirst(pairs, nodes);
+        }
+        int links = Math.min(pairs.size(), below(5) == 0 ? below(11) : 6 + below(5));
         List<String> lines = new ArrayList<>();
         int most = 1 + below(2);
+        int idle = below(3);
         for (int i = 0; i < links; i++) {
-            lines.add("link " + pairs.get(i)[0] + " " + pairs.get(i)[1] + " long " + (1 + below(9)) + " work "
-                    + below(most + 1) + ";");
+            int work = below(3) < idle ? 0 : below(most + 1);
+            lines.add("link " + pairs.get(i)[0] + " " + pairs.get(i)[1] + " long " + (1 + below(9)) + " work " + work + ";");
         }
-        int laws = below(4);
-        for (int i = 0; i < laws; i++) {
-            String law = random.nextBoolean() ? "costs : " + sum(3, false) + ";" : "may : " + truth(3, true) + ";";
-            lines.add(below(lines.size() + 1), law);
+        if (below(3) == 0) {
+            Collections.shuffle(lines, random);
+        }
+        for (int i = below(3); i > 0; i--) {
+            lines.add(below(lines.size() + 1), law());
         }
         return "net nodes " + nodes + " rate " + below(10) + ";" + String.join(below(4) == 0 ? "\n" : "", lines);
+    }
+
+    private String law() {
+        int depth = 1 + below(3);
+        switch (below(6)) {
+            case 0:
+                return "may : " + truth(depth, true) + ";";
+            case 1:
+                return "may : links < " + (4 + below(3)) + " or rate < " + below(10) + ";";
+            case 2:
+                return "may : " + new String[] {"links", "chords * 2", "work", "long"}[below(4)] + " > rate;";
+            case 3:
+                return "costs : if " + truth(depth, false) + " then long * rate else " + below(99) + " end;";
+            default:
+                return "costs : " + sum(depth, false) + ";";
+        }
+    }
+
+    /** Links around all nodes come first, so that others are chords of the ring that they make. */
+    private void aroundFirst(List<int[]> pairs, int nodes) {
+        List<int[]> around = new ArrayList<>();
+        for (int i = pairs.size() - 1; i >= 0; i--) {
+            int apart = Math.abs(pairs.get(i)[0] - pairs.get(i)[1]);
+            if (apart == 1 || apart == nodes - 1) {
+                around.add(pairs.remove(i));
+            }
+        }
+        pairs.addAll(0, around);
     }
 
     private String word(boolean may) {
@@ -153,9 +191,21 @@ public final class RandomRunsTest {
     /** A text with something cut out, put in or put in place of something. */
     private String spoilt(String text) {
         String[] bits = {" ", ";", ":", "(", ")", "[", "]", "not ", "if ", "end ", "10", "3", "1000", "net ", "long", "links", "to ",
-            "\t", "A", "\u00e9", "\u0000", "-", "link 0 1 long 1 work 1;", "=", "((((((", "then", "rate", "+", "or ", "12345"};
+            "\t", "A", "\u00e9", "\u0000", "-", "link 0 1 long 1 work 1;", "=", "((((((", "then", "rate", "+", "or ", "12345", "(((((((",
+            "not not not not not not not ", "[[[[", "may:[not[(if[1=1]and not(2)<3 then 1 else 2 end)=1]];", " 9 ", "link 1 0 long 9 work 0;",
+            "link 2 3 long 9 work 0;", "costs:((if not not[(1)=1]then 1 else 2 end));", "z"};
         StringBuilder s = new StringBuilder(text);
-        for (int i = 1 + below(2); i > 0; i--) {
+        for (int i = below(3); i > 0; i--) {
+            int at = below(s.length());
+            if (Character.isDigit(s.charAt(at))) {
+                s.setCharAt(at, (char) ('0' + below(10)));
+            }
+        }
+        for (int i = below(3); i > 0; i--) {
+            int at = Math.max(0, s.lastIndexOf(";", below(s.length())));
+            s.insert(at == 0 ? 0 : at + 1, bits[below(bits.length)]);
+        }
+        for (int i = below(3); i > 0; i--) {
             int at = below(s.length() + 1);
             int cut = below(3) == 0 ? 0 : Math.min(s.length() - at, 1 + below(3));
             s.delete(at, at + cut);
@@ -192,7 +242,7 @@ public final class RandomRunsTest {
         int r = near(Math.max(1, m.rings()));
         int l = near(Math.max(1, m.count(1)));
         int k = below(20);
-        if (k < 7) {
+        if (k < 6) {
             same("lay(" + r + ")", x.lay(r), m.lay(r));
         } else if (k < 9) {
             same("take(" + r + ")", x.take(r), m.take(r));

@@ -87,6 +87,9 @@ public final class TextTest {
         Check.faulty(HEAD + HEAD, 2, 19);
         Check.faulty(HEAD + "rate 1;", 2, 19);
         Check.faulty(HEAD + "7;", 2, 19);
+        Check.faulty(HEAD + "z;", 2, 19);
+        Check.faulty(HEAD + "linkz 0 1;", 2, 19);
+        Check.faulty(HEAD + "a 0 1;", 2, 19);
     }
 
     private static void linkFaults() {
@@ -96,6 +99,10 @@ public final class TextTest {
         Check.faulty(HEAD + "link 2 2 long 1 work 1;", 3, 26);
         Check.faulty(link + "link 0 1 long 1 work 1;", 3, link.length() + 7);
         Check.faulty(link + "link 1 0 long 1 work 1;", 3, link.length() + 7);
+        String links = link + "link 2 0 long 1 work 1;link 3 1 long 1 work 1;link 2 3 long 1 work 1;";
+        for (String pair : new String[] {"0 1", "1 0", "0 2", "2 0", "1 3", "3 1", "2 3", "3 2"}) {
+            Check.faulty(links + "link " + pair, 3, links.length() + 7);
+        }
         Check.faulty(HEAD + "link 0 1 long 0 work 1;", 3, 33);
         Check.faulty(HEAD + "link 0 1 long 10 work 1;", 3, 33);
         Check.faulty(HEAD + "link 0 1 long 1 work 3;", 3, 40);
