@@ -36,6 +36,10 @@ public final class PricedTest {
         rates(x, 0, 0);
         asks(x);
         byTheRateNow();
+        byEachRate("costs:if rate<from*3 then long else rate+to end;");
+        byEachRate("costs:if rate=from or rate=to*2 then 5 else if rate>4 then rate-4 else 2 end end;");
+        byEachRate("costs:(rate-from*2)*(rate-to*2);");
+        byEachRate("costs:rate*long;");
         Check.end();
     }
 
@@ -70,6 +74,51 @@ public final class PricedTest {
         Check.fill(y, 1, 1, 2003);
         Check.due("rates() of ring 2", y.rates(1), 7);
         Check.due("ask() of 0, 1, 2", y.ask(1), 1);
+    }
+
+    /** What each ring costs by each rate is asked by setting the rate; all else follows. */
+    private static void byEachRate(String law) {
+        SpareRings x = Check.told("net nodes 4 rate 3;link 0 1 long 1 work 0;link 0 2 long 2 work 0;link 0 3 long 3 work 0;"
+                + "link 1 2 long 4 work 0;link 1 3 long 5 work 0;link 2 3 long 6 work 0;" + law);
+        int rings = x.rings();
+        int[][] costs = new int[rings][10];
+        for (int rate = 0; rate < 10; rate++) {
+            x.rate(rate);
+            for (int r = 0; r < rings; r++) {
+                costs[r][rate] = x.ring(r, 3);
+            }
+        }
+        for (int r = 0; r < rings; r++) {
+            for (int rate = 0; rate < 10; rate++) {
+                int bits = 0;
+                for (int other = 0; other < 10; other++) {
+                    bits |= costs[r][other] == costs[r][rate] ? 1 << other : 0;
+                }
+                Check.fill(x, 0, 2, 1000 * r + costs[r][rate]);
+                Check.due("rates() by: " + law, x.rates(0), bits);
+                Check.due("ask() by: " + law, x.ask(0), toAsk(costs, bits));
+            }
+        }
+    }
+
+    private static int toAsk(int[][] costs, int bits) {
+        int found = -1;
+        int least = 11;
+        for (int r = 0; r < costs.length; r++) {
+            int[] times = new int[1000];
+            int most = 0;
+            for (int rate = 0; rate < 10; rate++) {
+                if ((bits >> rate & 1) != 0) {
+                    times[costs[r][rate]]++;
+                    most = Math.max(most, times[costs[r][rate]]);
+                }
+            }
+            if (most < least) {
+                least = most;
+                found = r;
+            }
+        }
+        return found;
     }
 
     private static void byTheRateNow() {

@@ -9,6 +9,7 @@ public final class RingsTest {
     public static void main(String[] args) {
         links();
         rings();
+        eightNodes();
         allRingsOfFive();
         paths();
         costs();
@@ -77,6 +78,19 @@ public final class RingsTest {
         SpareRings z = Check.told("net nodes 6 rate 0;link 0 1 long 1 work 0;link 1 2 long 1 work 0;link 2 0 long 1 work 0;"
                 + "link 5 3 long 1 work 0;link 3 4 long 1 work 0;link 4 5 long 1 work 0;");
         Check.due("rings of two apart", z.rings(), 2);
+    }
+
+    private static void eightNodes() {
+        SpareRings x = Check.told("net nodes 8 rate 0;link 0 1 long 1 work 0;link 1 7 long 1 work 0;link 7 0 long 1 work 0;"
+                + "link 7 6 long 1 work 0;link 6 0 long 1 work 0;link 0 2 long 1 work 0;link 0 3 long 1 work 0;"
+                + "link 0 4 long 1 work 0;link 0 5 long 1 work 0;");
+        Check.due("rings()", x.rings(), 3);
+        Check.due("nodes of 0, 1, 7", x.ring(x.ringOf(7), 1), 0x83);
+        Check.due("nodes of 0, 6, 7", x.ring(x.ringOf(28), 1), 0xC1);
+        Check.due("nodes of 0, 1, 6, 7", x.ring(x.ringOf(27), 1), 0xC3);
+        Check.due("its chord", x.ring(x.ringOf(27), 2), 4);
+        Check.due("bridges()", x.bridges(), 0x1E0);
+        Check.due("cut(0, 7, 1)", x.cut(0, 7, 1), 13);
     }
 
     static String five(String laws) {

@@ -65,6 +65,13 @@ public final class TextTest {
         Check.due("none failed", x.count(4), 0);
         Check.due("nothing undone", x.count(6), 0);
         Check.due("rate", x.count(2), 2);
+        Check.feed(x, "net nodes 1 rate 10000; ".getBytes());
+        Check.due("a number that the text's end cuts", x.net(20), -33);
+        Check.feed(x, "net nodes 1 rate 10000; ".getBytes());
+        Check.due("one digit more", x.net(21), -31);
+        Check.feed(x, "net nodes 1 rate 0;link ".getBytes());
+        Check.due("a word that it cuts", x.net(22), -32);
+        Check.due("its place", x.fault(1), 19);
         x.rate(7);
         Check.tell(x, HEAD);
         Check.due("the rate told", x.count(2), 2);
