@@ -21,6 +21,14 @@ final class Check {
         due(what, truth ? 1 : 0, 1);
     }
 
+    static void alike(String what, String got, String want) {
+        looked++;
+        if (!got.equals(want)) {
+            wrong++;
+            System.out.println(what + "\n  is  " + got + "\n  due " + want);
+        }
+    }
+
     /** Ends the test: exit code 1 if an answer wasn't as due. */
     static void end() {
         System.out.println(wrong == 0 ? looked + " answers are as due" : wrong + " answers are not as due");
