@@ -206,7 +206,7 @@ final class Bounds {
             add(s, "rates", x.rates(tray));
             lookAtSize(s, x, tray);
         }
-        while (x.count(6) > 0) {
+        for (int n = x.count(6); n > 0 && n <= 10; n--) {
             add(s, "undo", x.undo(1));
             lookBriefly(s, x);
         }

@@ -22,6 +22,7 @@ final class BoundsCovers {
         aims();
         ofLikeOnes();
         nineAside();
+        yetByRates();
         yet();
         yetRefused();
         among();
@@ -173,6 +174,7 @@ final class BoundsCovers {
             Bounds.due("yet(" + aim + ", 0)", y.yet(aim, 0), 7 + aim);
             Bounds.due("yet(" + aim + ", 1)", y.yet(aim, 1), 2);
         }
+        theFirstLink();
         // With ring 4 laid once, one copy of ring 3 is all; with ring 3 laid once, the first of those with use for link 5.
         y.lay(4);
         Bounds.due("among(1, 3) with ring 4", y.among(1, 3), 1);
@@ -180,6 +182,62 @@ final class BoundsCovers {
         y.lay(3);
         Bounds.due("among(1, 3) with ring 3", y.among(1, 3), 1);
         Bounds.due("among(0, 4) with ring 3", y.among(0, 4), 1);
+    }
+
+    /** Cheapest are rings 0 4, 1 5, 4 6 and 5 6: for link 2, the first with work, ring 1 is the least, not ring 0. */
+    private static void theFirstLink() {
+        SpareRings x = Bounds.told("net nodes 4 rate 0;" + Bounds.link(0, 1, 1, 0) + Bounds.link(0, 2, 1, 0) + Bounds.link(0, 3, 1, 1)
+                + Bounds.link(1, 2, 1, 2) + Bounds.link(1, 3, 1, 2) + Bounds.link(2, 3, 1, 0));
+        int[] among = {0, 1, 0, 0, 0, 1, 0};
+        for (int r = 0; r < among.length; r++) {
+            Bounds.due("among(0, " + r + ")", x.among(0, r), among[r]);
+        }
+        Bounds.due("yet(0, 0)", x.yet(0, 0), 7);
+        // Ring 1 (links 0, 4, 5) is for the first link, then ring 0 (1, 2, 3).
+        SpareRings y = Bounds.told("net nodes 6 rate 0;" + Bounds.link(0, 1, 1, 1) + Bounds.link(3, 4, 1, 1) + Bounds.link(4, 5, 1, 0)
+                + Bounds.link(5, 3, 1, 0) + Bounds.link(1, 2, 1, 0) + Bounds.link(2, 0, 1, 0));
+        for (int aim = 0; aim < 2; aim++) {
+            Bounds.due("among(" + aim + ", 0)", y.among(aim, 0), 1);
+            Bounds.due("among(" + aim + ", 1)", y.among(aim, 1), 1);
+            Bounds.due("yet(" + aim + ", 0)", y.yet(aim, 0), 6);
+        }
+    }
+
+    /** By rates 0 to 3 the ring around is the cheapest, by 4 alike, by 5 to 9 the triangles; whatever was asked ahead. */
+    private static void yetByRates() {
+        Bounds.says(21, "To lay YET, an AIM (0, 1), what 0: their COST, 1: how many.");
+        SpareRings x = Bounds.told(twoOrOne(9, true) + "costs:if long=9 then rate*2+2 else 5 end;");
+        SpareRings other = Bounds.told(twoOrOne(9, false) + "costs:if long=9 then rate*2+2 else 5 end;");
+        int[] rates = {0, 9, 3, 4, 5, 1, 8, 2, 7, 6, 0, 9};
+        for (int rate : rates) {
+            x.rate(rate);
+            other.rate(rate);
+            Bounds.due("yet(0, 0) by rate " + rate, x.yet(0, 0), Math.min(30, 20 + 2 * rate + 2));
+            Bounds.due("yet(1, 0) by rate " + rate, x.yet(1, 0), 20 + 2 * rate + 2);
+            Bounds.due("yet(1, 1) by rate " + rate, x.yet(1, 1), 1);
+            Bounds.due("yet(0, 1) by rate " + rate, x.yet(0, 1), rate < 4 ? 1 : 2);
+            Bounds.due("yet(0, 1) by rate " + rate + ", the ring around ahead", other.yet(0, 1), rate < 5 ? 1 : 2);
+        }
+        // The triangles cost 6 and 6 times the rate, the ring around 17 and 4 times the rate.
+        Bounds.tell(x, twoOrOne(9, true) + "costs:if long=9 then 13 else rate+1 end;");
+        for (int rate : rates) {
+            x.rate(rate);
+            Bounds.due("yet(0, 0) by rate " + rate, x.yet(0, 0), rate < 6 ? 6 * rate + 6 : 4 * rate + 17);
+            Bounds.due("yet(0, 1) by rate " + rate, x.yet(0, 1), rate < 6 ? 2 : 1);
+        }
+        Bounds.tell(x, Bounds.full(5, 1, 1));
+        Bounds.due("yet(1, 1) of five nodes", x.yet(1, 1), 1);
+        Bounds.tell(x, Bounds.SQUARE + "costs:50;");
+        Bounds.due("yet(0, 0) of three dear rings", x.yet(0, 0), 200);
+        Bounds.tell(x, Bounds.SQUARE);
+        Bounds.due("yet(0, 0) of another net", x.yet(0, 0), 10);
+        Bounds.tell(x, Bounds.SQUARE + "costs:3;");
+        Bounds.due("yet(0, 0) of one more", x.yet(0, 0), 12);
+        x.lay(1);
+        Bounds.due("yet(0, 0) with ring 1", x.yet(0, 0), 9);
+        Bounds.due("yet(1, 0) with ring 1", x.yet(1, 0), 12);
+        x.undo(1);
+        Bounds.due("yet(0, 0) without it", x.yet(0, 0), 12);
     }
 
     private static void nineAside() {
@@ -226,6 +284,8 @@ final class BoundsCovers {
         Bounds.due("yet(0, 1) by rate 1: link 2 has no use", y.yet(0, 1), -1);
         y.rate(6);
         Bounds.due("yet(0, 1) by rate 6", y.yet(0, 1), 1);
+        y.rate(1);
+        Bounds.due("yet(0, 1) by rate 1 again", y.yet(0, 1), -1);
     }
 
     private static void yetRefused() {
@@ -452,6 +512,15 @@ final class BoundsCovers {
         Bounds.due("lists of a cover", x.lists(0, 0), 0);
         Bounds.due("the tray stays", x.rates(0), 2);
         Bounds.due("nothing to be undone by it", x.count(6), 4);
+        SpareRings zero = Bounds.square();
+        zero.numbers(0, 0, 3);
+        Bounds.due("lists of ring 0", zero.lists(0, 0), 1);
+        SpareRings twice = Bounds.told(Bounds.around(4, 1, 2));
+        twice.numbers(0, 0, 3);
+        Bounds.due("lists of ring 0, twice", twice.lists(0, 1), 2);
+        SpareRings last = Bounds.told(Bounds.full(5, 1, 0).replace("link 3 4 long 1 work 0", "link 3 4 long 1 work 2") + "may:long=3;");
+        last.numbers(3, 2, 40);
+        Bounds.due("lists of ring 7, twice", last.lists(3, 0), 2);
     }
 
     private static void listsRefused() {

@@ -31,6 +31,7 @@ final class BoundsDeeds {
         undone();
         tenAtMost();
         asAWhole();
+        undoneEach();
         undoRefused();
         deeds();
         judged();
@@ -253,6 +254,31 @@ final class BoundsDeeds {
         runs(z, 6, 0, r, 0, 3);
         runs(z, 7, 0, r, 0, 24);
         Bounds.due("fail(8): both its paths share a link", z.fail(8), 1);
+        sharesWithTheFirst();
+    }
+
+    /** Three chords of a ring of six: paths 3 and 24 of the first two share nothing, 6 shares link 1 with the first alone. */
+    private static void sharesWithTheFirst() {
+        String net = Bounds.around(6, 1, 0) + Bounds.link(0, 2, 1, 1) + Bounds.link(3, 5, 1, 1) + Bounds.link(1, 3, 1, 1) + "may:links=6;";
+        SpareRings x = Bounds.told(net);
+        int r = x.ringOf(63);
+        x.lay(r);
+        x.fail(6);
+        x.fail(7);
+        Bounds.due("fail(8) behind them", x.fail(8), 1);
+        runs(x, 6, 0, r, 0, 3);
+        runs(x, 7, 0, r, 0, 24);
+        SpareRings y = Bounds.told(net);
+        y.fail(6);
+        y.fail(7);
+        y.fail(8);
+        y.lay(r);
+        Bounds.due("all try at once", y.lost(), 1);
+        isLost(y, 8, 0);
+        Bounds.due("mend(6): link 8's unit finds path 6", y.mend(6), 0);
+        runs(y, 8, 0, r, 0, 6);
+        Bounds.due("fail(6): its path shares link 1, the other side the rest", y.fail(6), 1);
+        isLost(y, 6, 0);
     }
 
     private static void mends() {
@@ -581,6 +607,41 @@ final class BoundsDeeds {
         Bounds.due("copies", y.count(3), 0);
     }
 
+    /** What any call did is undone as if it hadn't been: all that can be seen is as ahead of it. */
+    private static void undoneEach() {
+        terms("COPIES, LINKS that failed, what runs where, the RATE.");
+        Bounds.Call[] calls = {x -> x.lay(1), x -> x.take(0), x -> x.fail(1), x -> x.mend(4), x -> x.rate(4), x -> x.rate(5),
+            x -> x.perform(0), x -> x.year(3, 40)};
+        for (int i = 0; i < calls.length; i++) {
+            SpareRings x = laidAndFailed();
+            Bounds.holds("call " + i + " can be", calls[i].on(x) >= 0);
+            Bounds.due("count(6) behind call " + i, x.count(6), 6);
+            Bounds.due("undo(1) of call " + i, x.undo(1), 5);
+            Check.alike("call " + i + " undone", Bounds.look(x), Bounds.look(laidAndFailed()));
+            for (int j = 0; j < calls.length; j++) {
+                SpareRings y = laidAndFailed();
+                long first = calls[i].on(y);
+                String between = y.count(6) + " " + y.count(2) + " " + y.count(3) + " " + y.count(4) + " " + y.lost() + " " + y.cost();
+                if (first >= 0 && calls[j].on(y) > 0) {
+                    Bounds.due("undo(1) of call " + j + " behind " + i, y.undo(1), 6);
+                    Check.alike("call " + j + " behind " + i + " undone", y.count(6) + " " + y.count(2) + " " + y.count(3) + " " + y.count(4)
+                            + " " + y.lost() + " " + y.cost(), between);
+                }
+            }
+        }
+    }
+
+    private static SpareRings laidAndFailed() {
+        SpareRings x = Bounds.told(Bounds.SQUARE + "may:rate<5;costs:rate*9+long;");
+        x.lay(0);
+        x.lay(0);
+        x.lay(2);
+        x.fail(4);
+        x.fail(0);
+        Bounds.fill(x, 0, 2, 200, 201, 110, 12, 302);
+        return x;
+    }
+
     private static void undoRefused() {
         Bounds.says(15, "-3: n, more than can be.");
         Bounds.sameEach(Bounds::fresh, "undo", -3, (x, n) -> x.undo(n), 0, 1, -1, 10, Bounds.MAX, Bounds.MIN);
@@ -731,19 +792,14 @@ final class BoundsDeeds {
 
     // ---- years
 
-    private static int draw(int[] x) {
-        x[0] = x[0] * 1103515245 + 12345;
-        return x[0] >>> 16;
-    }
-
     /** A year's deeds, each told by a tray of its own: how many could be. */
     private static int byTrays(SpareRings x, int seed, int times) {
         int[] s = {seed};
         int done = 0;
         for (int i = 0; i < times; i++) {
             int[] first = {200, 200, 300, 100, 110};
-            int sort = draw(s) % 5;
-            int deed = first[sort] + draw(s) % (sort < 3 ? 12 : 10);
+            int sort = DeedsTest.draw(s) % 5;
+            int deed = first[sort] + DeedsTest.draw(s) % (sort < 3 ? 12 : 10);
             x.numbers(0, 2, 1);
             x.write(0, 0, deed);
             done += x.perform(0);
@@ -797,8 +853,8 @@ final class BoundsDeeds {
         int left = 12 * 3 + 10 * 2;
         for (int seed = -3000; seed < 3000 && left > 0; seed++) {
             int[] s = {seed};
-            int sort = draw(s) % 5;
-            int which = draw(s) % (sort < 3 ? 12 : 10);
+            int sort = DeedsTest.draw(s) % 5;
+            int which = DeedsTest.draw(s) % (sort < 3 ? 12 : 10);
             if (!seen[sort][which]) {
                 seen[sort][which] = true;
                 left--;

@@ -51,14 +51,26 @@ final class BoundsLaws {
         Check.faulty(HEAD + "costs:1;;", 2, 27);
         String[] words = {"net", "nodes", "4", "rate", "2", ";"};
         for (int left = 0; left < words.length; left++) {
-            StringBuilder text = new StringBuilder();
-            int place = 0;
-            for (int i = 0; i < words.length; i++) {
-                place = i == left ? text.length() : place;
-                text.append(i == left ? "" : words[i] + " ");
-            }
-            Check.faulty(text.toString(), 2, left == words.length - 1 ? text.length() : place);
+            Check.faulty(without("", words, left), 2, placeWithout("", words, left));
         }
+    }
+
+    /** A text of words, but for one. */
+    private static String without(String start, String[] words, int left) {
+        StringBuilder text = new StringBuilder(start);
+        for (int i = 0; i < words.length; i++) {
+            text.append(i == left ? "" : words[i] + " ");
+        }
+        return text.toString();
+    }
+
+    /** Where the one left out should have begun: there is another one, or the text's end. */
+    private static int placeWithout(String start, String[] words, int left) {
+        int place = start.length();
+        for (int i = 0; i < left; i++) {
+            place += words[i].length() + 1;
+        }
+        return place;
     }
 
     private static void linkLine() {
@@ -66,14 +78,9 @@ final class BoundsLaws {
         Check.good(HEAD + "link 0 1 long 1 work 1;", 2);
         String[] words = {"link", "0", "1", "long", "1", "work", "1", ";"};
         for (int left = 0; left < words.length; left++) {
-            StringBuilder text = new StringBuilder(HEAD);
-            int place = 0;
-            for (int i = 0; i < words.length; i++) {
-                place = i == left ? text.length() : place;
-                text.append(i == left ? "" : words[i] + " ");
-            }
             // Without the first node the second one is taken for it.
-            Check.faulty(text.toString(), 2, left == 1 ? place + 2 : left == words.length - 1 ? text.length() : place);
+            int later = left == 1 ? "1 ".length() : 0;
+            Check.faulty(without(HEAD, words, left), 2, placeWithout(HEAD, words, left) + later);
         }
         Check.faulty(HEAD + "costs 1;", 2, 25);
         Check.faulty(HEAD + "costs:;", 2, 25);
@@ -388,9 +395,38 @@ final class BoundsLaws {
                 + Bounds.link(2, 0, 3, 1));
         Bounds.due("laws told ahead of links: rings", ahead.rings(), 1);
         Bounds.due("laws told ahead of links: costs", ahead.ring(0, 3), 15);
-        SpareRings x = triangle("costs:5;");
-        Bounds.tell(x, HEAD + Bounds.link(0, 1, 3, 1) + Bounds.link(1, 2, 3, 1) + Bounds.link(2, 0, 3, 1));
-        Bounds.due("of the net ahead there is none", x.ring(0, 3), 9);
+        lawsOfTheNetAhead();
+    }
+
+    /** Nothing is left of the laws of a net that was told ahead, faulty or not. */
+    private static void lawsOfTheNetAhead() {
+        String none = HEAD + Bounds.link(0, 1, 3, 1) + Bounds.link(1, 2, 3, 1) + Bounds.link(2, 0, 3, 1);
+        String[] ahead = {"costs:5;", "may:1=2;", "costs:5;may:1=2;", "may:1=2;costs:5;", "costs:1+2+3+4;may:not not not 1=1;", "may:not 1=1;",
+            "costs:5;?", "may:1=2;costs:5;?"};
+        for (String laws : ahead) {
+            SpareRings x = new SpareRings();
+            Bounds.tell(x, none + laws);
+            Bounds.tell(x, none);
+            Bounds.due("rings behind " + laws, x.rings(), 1);
+            Bounds.due("ring(0, 3) behind " + laws, x.ring(0, 3), 9);
+            Bounds.tell(x, none + laws);
+            Bounds.tell(x, none + "costs:7+8;");
+            Bounds.due("ring(0, 3) by costs:7+8 behind " + laws, x.ring(0, 3), 45);
+            Bounds.due("rings by costs:7+8 behind " + laws, x.rings(), 1);
+            Bounds.tell(x, none + laws);
+            Bounds.tell(x, none + "may:1=1;");
+            Bounds.due("ring(0, 3) by may:1=1 behind " + laws, x.ring(0, 3), 9);
+            Bounds.due("rings by may:1=1 behind " + laws, x.rings(), 1);
+        }
+        StringBuilder most = new StringBuilder(none + "costs:5");
+        while (most.length() < 897) {
+            most.append("-0");
+        }
+        SpareRings x = new SpareRings();
+        for (int i = 0; i < 5; i++) {
+            Bounds.due("net of a law as long as can be", Bounds.tell(x, most + "+1;"), 5);
+            Bounds.due("ring(0, 3)", x.ring(0, 3), 18);
+        }
     }
 
     // ---- tokens
@@ -544,10 +580,11 @@ final class BoundsLaws {
                 + " may : links = 3 and chords > 0 or 1 < 2 ; ";
         for (int n = 0; n <= text.length(); n++) {
             String cut = text.substring(0, n);
-            String told = cut.trim();
             boolean goesOn = n > 0 && Character.isLetter(cut.charAt(n - 1)) && n < text.length() && Character.isLetter(text.charAt(n));
-            if (told.endsWith(";")) {
-                Check.good(cut, (int) told.chars().filter(c -> c == ';').count());
+            if (cut.trim().endsWith(";")) {
+                int lines = (int) cut.chars().filter(c -> c == ';').count();
+                Check.good(cut, lines);
+                cutIs(text, n, lines, -1);
             } else {
                 int start = n;
                 while (goesOn && Character.isLetter(text.charAt(start - 1))) {
@@ -555,11 +592,30 @@ final class BoundsLaws {
                     goesOn = start > 0;
                 }
                 Check.faulty(cut, 2, start);
+                cutIs(text, n, -32, start);
             }
         }
+        String numbers = HEAD + "costs:123+456;";
+        cutIs(numbers, numbers.length() - 7, -32, numbers.length() - 7);
+        cutIs(numbers, numbers.length() - 6, -32, numbers.length() - 6);
+        cutIs(numbers, numbers.length() - 3, -32, numbers.length() - 3);
+        cutIs(numbers + "9", numbers.length(), 2, -1);
+        cutIs("net nodes 1 rate 0;net", 19, 1, -1);
+        cutIs("net nodes 1 rate 01234", 18, -32, 18);
+        cutIs("net nodes 1 rate 01234", 19, -32, 19);
+        cutIs("net nodes 1 rate 01234", 20, -33, 17);
+        cutIs("net nodes 1 rate 01234", 21, -31, 17);
         Check.faulty("   ", 2, 3);
         Check.faulty("\n", 2, 1);
         Check.faulty("net nodes 4 rate 2 \n\n", 2, 21);
+    }
+
+    /** The first n bytes of a text that goes on behind them are the net. */
+    private static void cutIs(String text, int n, int answer, int place) {
+        SpareRings x = new SpareRings();
+        Check.feed(x, (text + "end").getBytes());
+        Bounds.due("net(" + n + ") of: " + text, x.net(n), answer);
+        Bounds.due("its fault's place", x.fault(1), place);
     }
 
     private static void outOfBounds() {

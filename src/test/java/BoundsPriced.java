@@ -16,6 +16,7 @@ final class BoundsPriced {
         ratesNumbers();
         ringsAsNow();
         askFor();
+        askByTwoRates();
         askNone();
         askAsRates();
         lots();
@@ -159,6 +160,23 @@ final class BoundsPriced {
         Bounds.due("ask of 4 to 7: ring 0 by three (5, 6, 7), ring 1 by four", y.ask(0), 0);
     }
 
+    /** One ring costs the same by two rates, the other one doesn't: that one is to be asked for. */
+    private static void askByTwoRates() {
+        Bounds.says(39, "the greatest number of these RATES by which its COST is the same is least, the first.");
+        String net = TWO.substring(0, TWO.indexOf("costs"));
+        for (int a = 0; a < 10; a++) {
+            for (int b = a + 1; b < 10; b++) {
+                String two = "if rate=" + a + " or rate=" + b + " then 50 else rate+1 end";
+                String first = "costs:if long<3 then " + two + " else rate+1 end;";
+                String second = "costs:if long<3 then rate+1 else " + two + " end;";
+                Bounds.due("rates " + a + ", " + b, priced(net + first, 150).rates(0), 1 << a | 1 << b);
+                Bounds.due("ask by rates " + a + ", " + b, priced(net + first, 150).ask(0), 1);
+                Bounds.due("ask by rates " + a + ", " + b + " of the second ring", priced(net + second, 1150).ask(0), 0);
+                Bounds.due("ask by rates " + a + ", " + b + " of both", priced(net + "costs:" + two + ";", 150).ask(0), 0);
+            }
+        }
+    }
+
     private static void askNone() {
         Bounds.says(39, "NONE: there are none, no RINGS;");
         Bounds.same(() -> priced(TWO, 999), "ask of no rate", -1, x -> x.ask(0));
@@ -278,19 +296,24 @@ final class BoundsPriced {
 
     private static void chanceRefused() {
         Bounds.says(40, "-2: what; -3: n.");
+        lotsRefused("chance", (x, n, what) -> x.chance(n, what));
+    }
+
+    private interface LotsCall {
+        int on(SpareRings x, int n, int what);
+    }
+
+    private static void lotsRefused(String name, LotsCall call) {
         int[] wrong = {-1, 2, 3, 32, Bounds.MAX, Bounds.MIN};
         int[] wrongN = {-1, 4, 5, 32, Bounds.MAX, Bounds.MIN};
-        for (int n = -1; n <= 4; n++) {
-            int a = n;
-            Bounds.sameEach(Bounds::busy, "chance(" + n + ", what)", -2, (x, what) -> x.chance(a, what), wrong);
-            Bounds.sameEach(Bounds::fresh, "chance(" + n + ", what)", -2, (x, what) -> x.chance(a, what), wrong);
+        for (int n : new int[] {-1, 0, 1, 2, 3, 4, Bounds.MAX, Bounds.MIN}) {
+            Bounds.sameEach(Bounds::busy, name + "(" + n + ", what)", -2, (x, what) -> call.on(x, n, what), wrong);
+            Bounds.sameEach(Bounds::fresh, name + "(" + n + ", what)", -2, (x, what) -> call.on(x, n, what), wrong);
         }
-        for (int what = 0; what <= 1; what++) {
-            int w = what;
-            Bounds.sameEach(Bounds::busy, "chance, what " + what, -3, (x, n) -> x.chance(n, w), wrongN);
-            Bounds.sameEach(Bounds::fresh, "chance, what " + what, -3, (x, n) -> x.chance(n, w), wrongN);
+        for (int what : new int[] {0, 1}) {
+            Bounds.sameEach(Bounds::busy, name + ", what " + what, -3, (x, n) -> call.on(x, n, what), wrongN);
+            Bounds.sameEach(Bounds::fresh, name + ", what " + what, -3, (x, n) -> call.on(x, n, what), wrongN);
         }
-        Bounds.same(Bounds::busy, "chance(MAX, MAX)", -2, x -> x.chance(Bounds.MAX, Bounds.MAX));
     }
 
     private static void mean() {
@@ -319,18 +342,6 @@ final class BoundsPriced {
 
     private static void meanRefused() {
         Bounds.says(41, "-2: what; -3: n.");
-        int[] wrong = {-1, 2, 3, 32, Bounds.MAX, Bounds.MIN};
-        int[] wrongN = {-1, 4, 5, 32, Bounds.MAX, Bounds.MIN};
-        for (int n = -1; n <= 4; n++) {
-            int a = n;
-            Bounds.sameEach(Bounds::busy, "mean(" + n + ", what)", -2, (x, what) -> x.mean(a, what), wrong);
-            Bounds.sameEach(Bounds::fresh, "mean(" + n + ", what)", -2, (x, what) -> x.mean(a, what), wrong);
-        }
-        for (int what = 0; what <= 1; what++) {
-            int w = what;
-            Bounds.sameEach(Bounds::busy, "mean, what " + what, -3, (x, n) -> x.mean(n, w), wrongN);
-            Bounds.sameEach(Bounds::fresh, "mean, what " + what, -3, (x, n) -> x.mean(n, w), wrongN);
-        }
-        Bounds.same(Bounds::busy, "mean(MIN, MIN)", -2, x -> x.mean(Bounds.MIN, Bounds.MIN));
+        lotsRefused("mean", (x, n, what) -> x.mean(n, what));
     }
 }

@@ -247,7 +247,7 @@ final class BoundsRings {
         Bounds.due("mended", x.link(4, 4), 0);
         Bounds.due("none is lost", x.link(4, 6), 0);
         for (int r = 0; r < 3; r++) {
-            while (x.ring(r, 5) < 9) {
+            for (int n = x.ring(r, 5); n < 9; n++) {
                 x.lay(r);
             }
         }
@@ -392,6 +392,8 @@ final class BoundsRings {
         Bounds.due("bare() by rate 1", x.bare(), 31);
         x.rate(9);
         Bounds.due("bare() by rate 9", x.bare(), 0);
+        x.rate(1);
+        Bounds.due("bare() by rate 1 again", x.bare(), 31);
     }
 
     private static void bridges() {

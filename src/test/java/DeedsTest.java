@@ -244,7 +244,8 @@ public final class DeedsTest {
         Check.due("rate", x.count(2), 9);
     }
 
-    private static int draw(int[] seed) {
+    /** The next draw by a seed, which goes on. */
+    static int draw(int[] seed) {
         seed[0] = seed[0] * 1103515245 + 12345;
         return seed[0] >>> 16;
     }
