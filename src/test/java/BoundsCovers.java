@@ -193,14 +193,13 @@ final class BoundsCovers {
             Bounds.due("among(0, " + r + ")", x.among(0, r), among[r]);
         }
         Bounds.due("yet(0, 0)", x.yet(0, 0), 7);
-        // Ring 1 (links 0, 4, 5) is for the first link, then ring 0 (1, 2, 3).
-        SpareRings y = Bounds.told("net nodes 6 rate 0;" + Bounds.link(0, 1, 1, 1) + Bounds.link(3, 4, 1, 1) + Bounds.link(4, 5, 1, 0)
-                + Bounds.link(5, 3, 1, 0) + Bounds.link(1, 2, 1, 0) + Bounds.link(2, 0, 1, 0));
-        for (int aim = 0; aim < 2; aim++) {
-            Bounds.due("among(" + aim + ", 0)", y.among(aim, 0), 1);
-            Bounds.due("among(" + aim + ", 1)", y.among(aim, 1), 1);
-            Bounds.due("yet(" + aim + ", 0)", y.yet(aim, 0), 6);
-        }
+        // Ring 1 (links 0, 4, 5) is for the first link, then ring 0 (1, 2, 3); the ring around both costs 13.
+        SpareRings y = Bounds.told("net nodes 5 rate 0;" + Bounds.link(3, 4, 1, 1) + Bounds.link(0, 1, 1, 1) + Bounds.link(1, 2, 1, 1)
+                + Bounds.link(0, 2, 1, 0) + Bounds.link(4, 0, 1, 1) + Bounds.link(3, 0, 1, 0) + Bounds.link(2, 3, 9, 0));
+        Bounds.due("among(0, 0)", y.among(0, 0), 1);
+        Bounds.due("among(0, 1)", y.among(0, 1), 1);
+        Bounds.due("yet(0, 0)", y.yet(0, 0), 6);
+        Bounds.due("yet(1, 0)", y.yet(1, 0), 13);
     }
 
     /** By rates 0 to 3 the ring around is the cheapest, by 4 alike, by 5 to 9 the triangles; whatever was asked ahead. */
