@@ -31,6 +31,7 @@ public final class FormTest {
             classForm(c);
         }
         face(Files.readString(DOCUMENT));
+        parts(Files.readString(DOCUMENT), Files.readString(SOURCE));
         Check.end();
     }
 
@@ -138,5 +139,28 @@ public final class FormTest {
                 && makers[0].getParameterCount() == 0);
         Check.holds("public and final", Modifier.isPublic(SpareRings.class.getModifiers())
                 && Modifier.isFinal(SpareRings.class.getModifiers()));
+    }
+
+    /** The calls stand in the document's order, behind what the interface says ahead of them. */
+    private static void parts(String document, String source) {
+        Matcher part = Pattern.compile("Ahead of the calls (.*) the interface says: (---- .*)\\.").matcher(document);
+        int at = 0;
+        int calls = 0;
+        while (part.find()) {
+            at = behind(source, at, "    // " + part.group(2) + "\n");
+            Matcher call = Pattern.compile("`(\\w+)`").matcher(part.group(1));
+            while (call.find()) {
+                at = behind(source, at, "(    public (int|long) )" + call.group(1) + "\\(");
+                calls++;
+            }
+        }
+        Check.due("calls of all parts", calls, 46);
+    }
+
+    private static int behind(String source, int at, String pattern) {
+        Matcher m = Pattern.compile(pattern).matcher(source);
+        boolean found = m.find(at);
+        Check.holds("in its place: " + pattern.trim(), found);
+        return found ? m.end() : at;
     }
 }
